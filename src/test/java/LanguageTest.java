@@ -5,7 +5,9 @@ import java.lang.reflect.Method;
 import java.lang.reflect.Modifier;
 import java.nio.file.Files;
 import java.nio.file.Path;
+import java.util.Map;
 import java.util.Set;
+import java.util.TreeMap;
 import java.util.TreeSet;
 import java.util.regex.Matcher;
 import java.util.regex.Pattern;
@@ -33,7 +35,10 @@ public final class LanguageTest {
         face();
         fields();
         words();
+        arrays();
         callsInArguments();
+        methodLengths();
+        callDepth();
         System.out.println(wrong == 0 ? "the rules are kept" : wrong + " breaches");
         if (wrong != 0) {
             System.exit(1);
@@ -83,6 +88,7 @@ public final class LanguageTest {
     }
 
     private static void fields() {
+        check(NodalCircuit.class.getDeclaredFields().length <= 40, "rule 10: fields");
         for (Field f : NodalCircuit.class.getDeclaredFields()) {
             int modifiers = f.getModifiers();
             check(Modifier.isPrivate(modifiers), "rule 1: field " + f.getName());
@@ -105,6 +111,54 @@ public final class LanguageTest {
             check(!Pattern.compile("\\b" + word + "\\b").matcher(code).find(), "forbidden word: " + word);
         }
         check(!code.contains("->") && !code.contains("::"), "rule 6: lambda or method reference");
+    }
+
+    private static void arrays() throws IOException {
+        Pattern field = Pattern.compile("private final \\w+\\[\\] \\w+ = new \\w+\\[[A-Z_0-9]+\\];");
+        for (String line : code().split("\n")) {
+            boolean makes = Pattern.compile("\\bnew\\b").matcher(line).find();
+            check(!makes || field.matcher(line.trim()).matches(), "rule 4: made elsewhere: " + line.trim());
+            check(!line.contains("[][]"), "rule 2: more than one dimension: " + line.trim());
+        }
+    }
+
+    /** The text of each method and of the constructor, by name. */
+    private static Map<String, String> bodies() throws IOException {
+        Map<String, String> bodies = new TreeMap<>();
+        String code = code();
+        Matcher head = Pattern.compile("(?m)^    (?:public|private)[\\w ]* (\\w+)\\([^)]*\\) \\{$").matcher(code);
+        while (head.find()) {
+            int end = code.indexOf("\n    }\n", head.end());
+            bodies.put(head.group(1), code.substring(head.end(), end));
+        }
+        check(bodies.size() == NodalCircuit.class.getDeclaredMethods().length + 1, "methods found: " + bodies.keySet());
+        return bodies;
+    }
+
+    private static void methodLengths() throws IOException {
+        for (Map.Entry<String, String> body : bodies().entrySet()) {
+            check(body.getValue().lines().count() <= 60, "rule 10: long method " + body.getKey());
+        }
+    }
+
+    /** Each round finds what goes one call deeper; with recursion there would be no last round. */
+    private static void callDepth() throws IOException {
+        Map<String, String> bodies = bodies();
+        Set<String> reached = new TreeSet<>(bodies.keySet());
+        int depth = 0;
+        while (!reached.isEmpty() && depth <= 6) {
+            depth++;
+            Set<String> deeper = new TreeSet<>();
+            for (String caller : reached) {
+                for (String called : bodies.keySet()) {
+                    if (Pattern.compile("\\b" + called + "\\(").matcher(bodies.get(caller)).find()) {
+                        deeper.add(called);
+                    }
+                }
+            }
+            reached = deeper;
+        }
+        check(depth <= 6, "rules 8 and 10: recursion, or calls more than six deep");
     }
 
     private static void callsInArguments() throws IOException {

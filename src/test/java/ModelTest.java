@@ -1,8 +1,9 @@
 import java.math.BigInteger;
 
 /**
- * Long runs of calls, each answer held against a slow model that follows the document's
- * words: trees are listed one by one and voltages come from the equations of "Terms".
+ * Long runs of calls and all small networks, each answer held against a slow model that
+ * follows the document's words: trees are listed one by one and voltages come from the
+ * equations of "Terms".
  */
 public final class ModelTest {
     private static final int RUNS = 120;
@@ -15,6 +16,10 @@ public final class ModelTest {
         for (int run = 0; run < RUNS; run++) {
             play(run);
         }
+        everyNetwork(2, 0, 1, 2, 3, 4, 5, 6, 7, 8, 9);
+        everyNetwork(3, 0, 1, 2, 3, 4, 5, 6, 7, 8, 9);
+        everyNetwork(4, 0, 1, 3);
+        everyNetwork(5, 0, 2);
         System.out.println(wrong == 0 ? "all answers are as due" : wrong + " answers are not as due");
         if (wrong != 0) {
             System.exit(1);
@@ -81,6 +86,64 @@ public final class ModelTest {
             case 15 -> due(where + "flowBottom" + pair, x.flowBottom(p, q), m.flow(p, q)[1]);
             case 16 -> due(where + "treesWith" + pair, x.treesWith(p, q), m.treesWith(p, q));
             default -> due(where + "bridges()", x.bridges(), m.bridges());
+        }
+    }
+
+    /** All networks of n points with conductances among these. */
+    private static void everyNetwork(int n, int... values) {
+        int pairs = n * (n - 1) / 2;
+        long networks = Math.round(Math.pow(values.length, pairs));
+        for (long code = 0; code < networks; code++) {
+            NodalCircuit x = new NodalCircuit(n);
+            Model m = new Model(n);
+            long rest = code;
+            for (int p = 0; p < n; p++) {
+                for (int q = p + 1; q < n; q++) {
+                    int value = values[(int) (rest % values.length)];
+                    rest /= values.length;
+                    x.join(p, q, value);
+                    m.join(p, q, value);
+                }
+            }
+            String where = n + " points, network " + code + ": ";
+            dueNetwork(where, x, m);
+            dueProbed(where, x, m);
+            x.probe(n - 1, 0);
+            m.probe(n - 1, 0);
+            dueProbed(where + "turned ", x, m);
+        }
+    }
+
+    private static void dueNetwork(String where, NodalCircuit x, Model m) {
+        due(where + "parts()", x.parts(), m.parts());
+        due(where + "trees()", x.trees(), m.trees(-1, -1));
+        due(where + "bridges()", x.bridges(), m.bridges());
+        for (int p = 0; p < m.n; p++) {
+            for (int q = 0; q < m.n; q++) {
+                String pair = "(" + p + ", " + q + ")";
+                long[] resistance = m.resistance(p, q);
+                due(where + "joined" + pair, x.joined(p, q), m.joined(p, q));
+                due(where + "resistanceTop" + pair, x.resistanceTop(p, q), resistance[0]);
+                due(where + "resistanceBottom" + pair, x.resistanceBottom(p, q), resistance[1]);
+                due(where + "treesWith" + pair, x.treesWith(p, q), m.treesWith(p, q));
+            }
+        }
+    }
+
+    private static void dueProbed(String where, NodalCircuit x, Model m) {
+        long[] current = m.current();
+        due(where + "currentTop()", x.currentTop(), current[0]);
+        due(where + "currentBottom()", x.currentBottom(), current[1]);
+        for (int p = 0; p < m.n; p++) {
+            long[] voltage = m.voltage(p);
+            due(where + "voltageTop " + p, x.voltageTop(p), voltage[0]);
+            due(where + "voltageBottom " + p, x.voltageBottom(p), voltage[1]);
+            for (int q = 0; q < m.n; q++) {
+                String pair = "(" + p + ", " + q + ")";
+                long[] flow = m.flow(p, q);
+                due(where + "flowTop" + pair, x.flowTop(p, q), flow[0]);
+                due(where + "flowBottom" + pair, x.flowBottom(p, q), flow[1]);
+            }
         }
     }
 
