@@ -35,7 +35,9 @@ public final class LanguageTest {
         face();
         fields();
         words();
+        dots();
         arrays();
+        loops();
         callsInArguments();
         methodLengths();
         callDepth();
@@ -111,6 +113,14 @@ public final class LanguageTest {
             check(!Pattern.compile("\\b" + word + "\\b").matcher(code).find(), "forbidden word: " + word);
         }
         check(!code.contains("->") && !code.contains("::"), "rule 6: lambda or method reference");
+        check(!Pattern.compile("\\bstatic\\s*\\{").matcher(code).find(), "rule 5: static initialiser");
+    }
+
+    /** With no dot but for its own fields and an array's length, nothing of another class is reached. */
+    private static void dots() throws IOException {
+        String rest = code().replaceAll("\\.length(?![\\w(])", " ").replaceAll("\\bthis\\.[a-z]\\w*(?![\\w(])", " ");
+        check(!rest.contains("."), "rule 3: a dot that is not for a field or a length");
+        check(!Pattern.compile("\\bthis\\b").matcher(rest).find(), "rule 2: this as a value");
     }
 
     private static void arrays() throws IOException {
@@ -119,6 +129,24 @@ public final class LanguageTest {
             boolean makes = Pattern.compile("\\bnew\\b").matcher(line).find();
             check(!makes || field.matcher(line.trim()).matches(), "rule 4: made elsewhere: " + line.trim());
             check(!line.contains("[][]"), "rule 2: more than one dimension: " + line.trim());
+        }
+    }
+
+    /** Each loop is a for whose head counts up to a bound, and whose body leaves the counter alone. */
+    private static void loops() throws IOException {
+        String code = code();
+        check(!Pattern.compile("\\b(while|do)\\b").matcher(code).find(), "rule 8: a loop without a counter");
+        Pattern counted = Pattern.compile("for \\(int (\\w+) = [^;]+; \\1 < \\w[^;|]*; \\1\\+\\+\\) \\{");
+        Matcher loop = Pattern.compile("(?m)^( *)(for\\b.*)$").matcher(code);
+        while (loop.find()) {
+            Matcher head = counted.matcher(loop.group(2));
+            boolean counts = head.matches();
+            check(counts, "rule 8: " + loop.group(2));
+            if (counts) {
+                String body = code.substring(loop.end(), code.indexOf("\n" + loop.group(1) + "}", loop.end()));
+                Pattern change = Pattern.compile("\\b" + head.group(1) + "(\\+\\+|--| (<<|>>|>>>|[-+*/%&|^])?=[^=])");
+                check(!change.matcher(body).find(), "rule 8: the counter changes in " + loop.group(2));
+            }
         }
     }
 
